@@ -149,7 +149,9 @@ public final class ForetoldTest {
         Due.is("BAD leaves the finding", x.status(), 2);
         Due.is("no way", x.writings(0, 0, 1, 0), Due.NONE);
         Due.is("no finding", x.status(), 0);
+        x.writings(1, 0, 1, 0);
         Due.is("a way", x.writings(0, 2, 1, -1), 2);
+        Due.is("no finding by a way", x.status(), 0);
     }
 
     private static void findsFrom() {
@@ -191,6 +193,9 @@ public final class ForetoldTest {
         ChalkCastle y = Due.of("k1,0;b6;");
         Due.fill(y, 0, 5);
         Due.is("no clerks", y.from(0, 0, 0), 0);
+        ChalkCastle z = Due.of("k1,0;b30;y1;s2;");
+        Due.fill(z, 0, 0);
+        Due.is("30 lines", z.from(0, 0, 0), 2);
     }
 
     private static void findsWho() {
@@ -328,6 +333,10 @@ public final class ForetoldTest {
         Due.is("n -1", x.drawn(-1, 1, 0), Due.BAD);
         Due.is("n 61", x.drawn(61, 1, 0), Due.BAD);
         Due.is("seed 0", x.drawn(1, 0, 0), Due.BAD);
+        // X 1774597664: clerk 0 writes 5 with block 0, and it rains.
+        Due.is("seed 999999", x.drawn(1, 999999, 1), 5);
+        Due.is("seed 999999", x.drawn(1, 999999, 0), 3);
+        Due.is("n 60: all is rained away", x.drawn(60, 999999, 0), 0);
         Due.is("seed 1000000", x.drawn(1, 1000000, 0), Due.BAD);
         Due.is("what 2", x.drawn(1, 1, 2), Due.BAD);
         Due.is("what -1", x.drawn(1, 1, -1), Due.BAD);

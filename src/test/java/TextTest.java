@@ -39,9 +39,12 @@ public final class TextTest {
         Due.is("121st", x.feed('b'), Due.FULL);
         Due.is("BAD ahead of FULL", x.feed(256), Due.BAD);
         Due.is("bytes", x.count(7), 120);
+        Due.is("FULL changes nothing", x.feed('k'), Due.FULL);
         Due.is("a byte that is none", x.castle(), -1000100);
         Due.is("empty then", x.count(7), 0);
         Due.is("from the first on", x.feed('k'), 1);
+        ChalkCastle y = Due.of("k1,0;b1;b12;");
+        Due.is("what was on the tape is gone", Due.read(y, "k1,0;b1;b1"), -1000110);
     }
 
     private static void readsCastles() {

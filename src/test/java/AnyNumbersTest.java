@@ -43,12 +43,12 @@ public final class AnyNumbersTest {
                 numbers[p] = wild.number(0, wild.random.nextBoolean() ? 3 : 12);
             }
             boolean looked = i % 8 == 7;
-            String before = looked ? seen(x) : "";
+            String before = looked ? Due.seen(x) : "";
             long answer = made(method, x, numbers);
             boolean refused = answer <= ChalkCastle.BAD && answer > -1000100;
             if (looked && (refused || !ALTERING.contains(method.getName()))) {
                 Due.holds("nothing changes by " + method.getName() + Arrays.toString(numbers),
-                    before.equals(seen(x)));
+                    before.equals(Due.seen(x)));
             }
         }
     }
@@ -60,23 +60,5 @@ public final class AnyNumbersTest {
             Due.holds(method.getName() + Arrays.toString(numbers) + " threw " + e.getCause(), false);
             return 0;
         }
-    }
-
-    /** All that can be seen of an object without changing it, but for its status. */
-    private static String seen(ChalkCastle x) {
-        StringBuilder text = new StringBuilder();
-        for (int what = 0; what < 8; what++) {
-            text.append(x.count(what)).append(' ');
-        }
-        for (int b = 0; b < x.count(1); b++) {
-            text.append(x.block(b, 0)).append(' ').append(x.block(b, 2)).append(' ');
-        }
-        for (int c = 0; c < x.count(3); c++) {
-            text.append(x.clerk(c, 0)).append(' ').append(x.clerk(c, 1)).append(' ').append(x.kind(c)).append(' ');
-        }
-        for (int i = 0; i < 6; i++) {
-            text.append(x.trace(i)).append(' ');
-        }
-        return text.append(x.stand(3)).append(' ').append(x.fault()).toString();
     }
 }

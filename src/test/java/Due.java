@@ -5,15 +5,21 @@ final class Due {
 
     private static int answers = 0;
     private static int wrong = 0;
+    private static String under = "";
 
     private Due() {
+    }
+
+    /** What is said ahead of each answer that is not as due, from now on. */
+    static void under(String said) {
+        under = said;
     }
 
     static void is(String what, long got, long want) {
         answers++;
         if (got != want) {
             wrong++;
-            System.out.println(what + " answered " + got + ", due is " + want);
+            System.out.println(under + what + " answered " + got + ", due is " + want);
         }
     }
 
@@ -48,6 +54,24 @@ final class Due {
         for (int i = 0; i < items.length; i++) {
             is("set", castle.set(row, i, items[i]), items[i]);
         }
+    }
+
+    /** All that can be seen of an object without changing it, but for its rows' items and its status. */
+    static String seen(ChalkCastle x) {
+        StringBuilder text = new StringBuilder();
+        for (int what = 0; what < 8; what++) {
+            text.append(x.count(what)).append(' ');
+        }
+        for (int b = 0; b < x.count(1); b++) {
+            text.append(x.block(b, 0)).append(' ').append(x.block(b, 2)).append(' ');
+        }
+        for (int c = 0; c < x.count(3); c++) {
+            text.append(x.clerk(c, 0)).append(' ').append(x.clerk(c, 1)).append(' ').append(x.kind(c)).append(' ');
+        }
+        for (int i = 0; i < 6; i++) {
+            text.append(x.trace(i)).append(' ');
+        }
+        return text.append(x.stand(3)).append(' ').append(x.fault()).toString();
     }
 
     static void fault(String text, int number, int place) {

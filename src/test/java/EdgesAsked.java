@@ -8,35 +8,36 @@ final class EdgesAsked {
     }
 
     static void all() {
-        kindsAreAsTold();
-        kindIsRefused();
-        kindsAreOfOneAnother();
-        asTellsTheNumber();
-        asIsRefused();
-        asFindsNoSuchKind();
-        sizeOfAll();
-        sizeOfClerks();
-        sizeOfShortOnes();
-        sizeOfBoys();
-        sizeOfLawyers();
-        markOfAll();
-        markOfClerks();
-        markOfPoets();
-        markOfBoys();
-        markOfShortOnes();
-        theNearestBodyBegins();
-        withinOthersItIsAskedAnew();
-        asksAreTwo();
-        askIsRefused();
-        theTraceIsEmptyAheadOfAnAsk();
-        theTraceTellsAsTheyBegin();
-        theTraceHasAnEnd();
-        countTellsHowMany();
-        countIsRefused();
-        statusIsOfTheLatestFinding();
-        statusOfNone();
-        statusLeavesOutRefusals();
-        statusLeavesOutOtherCalls();
+        Edge.each(
+            EdgesAsked::kindsAreAsTold,
+            EdgesAsked::kindIsRefused,
+            EdgesAsked::kindsAreOfOneAnother,
+            EdgesAsked::asTellsTheNumber,
+            EdgesAsked::asIsRefused,
+            EdgesAsked::asFindsNoSuchKind,
+            EdgesAsked::sizeOfAll,
+            EdgesAsked::sizeOfClerks,
+            EdgesAsked::sizeOfShortOnes,
+            EdgesAsked::sizeOfBoys,
+            EdgesAsked::sizeOfLawyers,
+            EdgesAsked::markOfAll,
+            EdgesAsked::markOfClerks,
+            EdgesAsked::markOfPoets,
+            EdgesAsked::markOfBoys,
+            EdgesAsked::markOfShortOnes,
+            EdgesAsked::theNearestBodyBegins,
+            EdgesAsked::withinOthersItIsAskedAnew,
+            EdgesAsked::asksAreTwo,
+            EdgesAsked::askIsRefused,
+            EdgesAsked::theTraceIsEmptyAheadOfAnAsk,
+            EdgesAsked::theTraceTellsAsTheyBegin,
+            EdgesAsked::theTraceHasAnEnd,
+            EdgesAsked::countTellsHowMany,
+            EdgesAsked::countIsRefused,
+            EdgesAsked::statusIsOfTheLatestFinding,
+            EdgesAsked::statusOfNone,
+            EdgesAsked::statusLeavesOutRefusals,
+            EdgesAsked::statusLeavesOutOtherCalls);
     }
 
     /** One of a kind with a hand, number 3, who wrote so many lines. */
@@ -316,6 +317,8 @@ final class EdgesAsked {
         for (int what = 0; what < 8; what++) {
             Due.is("count(" + what + ")", x.count(what), counts[what]);
         }
+        x.days(24);
+        Due.is("no more ACTS than are kept", x.count(6), 24);
         x.drop(0);
         Due.is("a row that is dropped", x.count(0), 3);
         x.drop(0);
@@ -456,5 +459,7 @@ final class EdgesAsked {
         x.trace(0);
         x.count(0);
         Due.is("SIZE", x.status(), 4);
+        Due.read(x, "k1,0;b9;c1;");
+        Due.is("behind another castle", x.status(), 4);
     }
 }

@@ -7,29 +7,30 @@ final class EdgesForetold {
     }
 
     static void all() {
-        nothingChanges();
-        whatStandsNowWouldFall();
-        wouldFallIsRefused();
-        wouldFallWithoutACastle();
-        leftOneAtATime();
-        leftIsRefused();
-        leastFallenForUpTo240();
-        leastFallenOfWhatStandsNow();
-        noToldOneFalls();
-        allButOneIsEnough();
-        theFewestDoNotStandThen();
-        theLeastOfSeveralSets();
-        leastFallenTellsTwo();
-        leastFallenIsRefused();
-        leastFallenWithoutACastle();
-        mustIsMoreThanHalf();
-        mustIsOfWhatStands();
-        mustWithoutACastle();
-        layerIsOneMoreThanTheGreatest();
-        layerIsRefused();
-        longestIsUpToThirty();
-        longestIsWithTheFirst();
-        longestIsRefused();
+        Edge.each(
+            EdgesForetold::nothingChanges,
+            EdgesForetold::whatStandsNowWouldFall,
+            EdgesForetold::wouldFallIsRefused,
+            EdgesForetold::wouldFallWithoutACastle,
+            EdgesForetold::leftOneAtATime,
+            EdgesForetold::leftIsRefused,
+            EdgesForetold::leastFallenForUpTo240,
+            EdgesForetold::leastFallenOfWhatStandsNow,
+            EdgesForetold::noToldOneFalls,
+            EdgesForetold::allButOneIsEnough,
+            EdgesForetold::theFewestDoNotStandThen,
+            EdgesForetold::theLeastOfSeveralSets,
+            EdgesForetold::leastFallenTellsTwo,
+            EdgesForetold::leastFallenIsRefused,
+            EdgesForetold::leastFallenWithoutACastle,
+            EdgesForetold::mustIsMoreThanHalf,
+            EdgesForetold::mustIsOfWhatStands,
+            EdgesForetold::mustWithoutACastle,
+            EdgesForetold::layerIsOneMoreThanTheGreatest,
+            EdgesForetold::layerIsRefused,
+            EdgesForetold::longestIsUpToThirty,
+            EdgesForetold::longestIsWithTheFirst,
+            EdgesForetold::longestIsRefused);
     }
 
     private static void nothingChanges() {
@@ -277,7 +278,8 @@ final class EdgesForetold {
         ChalkCastle y = Due.of("k1,0;b1;b1;b1;b1;r2,1;r3,0;r3,2;");
         Due.is("rests on none", y.layer(1), 0);
         Due.is("on one", y.layer(2), 1);
-        Due.is("the greatest, not the first or the fewest", y.layer(3), 2);
+        Due.is("the greatest is the last", y.layer(3), 2);
+        Due.is("the greatest is the first", Due.of("k1,0;b1;b1;b1;b1;r1,0;r3,1;r3,2;").layer(3), 2);
     }
 
     private static void layerIsRefused() {

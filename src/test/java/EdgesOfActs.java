@@ -4,30 +4,31 @@ final class EdgesOfActs {
     }
 
     static void all() {
-        anObjectIsUsedForManyCalls();
-        undoTellsHowManyYet();
-        undoIsRefused();
-        twentyFourActsAreKept();
-        theLatestIsUndoneFirst();
-        eachActIsUndone();
-        rubTakesDust();
-        rubPutsBackWhatIsCut();
-        rubPutsBackThirtyAtMost();
-        rubTellsChalk();
-        rubOfOneToSixty();
-        rubIsRefused();
-        rubOfMoreThanTheDust();
-        rainFallsOnWhatBearsNothing();
-        rainFallsOnWhatStands();
-        rainLeavesNoneAtLeast();
-        rainFallsAllAtOnce();
-        rainTellsWhatStands();
-        rainIsRefused();
-        aDayIsOneMore();
-        daysAreAnActEach();
-        daysAreRefused();
-        daysWithoutACastle();
-        daysAreFull();
+        Edge.each(
+            EdgesOfActs::anObjectIsUsedForManyCalls,
+            EdgesOfActs::undoTellsHowManyYet,
+            EdgesOfActs::undoIsRefused,
+            EdgesOfActs::twentyFourActsAreKept,
+            EdgesOfActs::theLatestIsUndoneFirst,
+            EdgesOfActs::eachActIsUndone,
+            EdgesOfActs::rubTakesDust,
+            EdgesOfActs::rubPutsBackWhatIsCut,
+            EdgesOfActs::rubPutsBackThirtyAtMost,
+            EdgesOfActs::rubTellsChalk,
+            EdgesOfActs::rubOfOneToSixty,
+            EdgesOfActs::rubIsRefused,
+            EdgesOfActs::rubOfMoreThanTheDust,
+            EdgesOfActs::rainFallsOnWhatBearsNothing,
+            EdgesOfActs::rainFallsOnWhatStands,
+            EdgesOfActs::rainLeavesNoneAtLeast,
+            EdgesOfActs::rainFallsAllAtOnce,
+            EdgesOfActs::rainTellsWhatStands,
+            EdgesOfActs::rainIsRefused,
+            EdgesOfActs::aDayIsOneMore,
+            EdgesOfActs::daysAreAnActEach,
+            EdgesOfActs::daysAreRefused,
+            EdgesOfActs::daysWithoutACastle,
+            EdgesOfActs::daysAreFull);
     }
 
     private static void anObjectIsUsedForManyCalls() {

@@ -6,35 +6,37 @@ final class EdgesOfChance {
     }
 
     static void all() {
-        rainsByNoneToTen();
-        rainsApart();
-        rainsInLowestTerms();
-        rainsAreRefused();
-        shareOfAllLines();
-        shareInLowestTerms();
-        shareOfNone();
-        shareIsRefused();
-        centuryOfUpToSixty();
-        centuryGoesOnByX();
-        centuryByClerks();
-        centuryWithoutClerks();
-        centuryByLines();
-        centuryByBlocks();
-        centuryIfHeCan();
-        centuryRainsThen();
-        centuryByDays();
-        centuryTellsItsDust();
-        drawnBySeeds();
-        drawnIsRefused();
-        drawnWithoutACastle();
-        imageIsKept();
-        imageIsRefused();
-        imageWithoutACastle();
-        restoreIsAsItWasKept();
-        restoreLeavesNoActs();
-        restoreLeavesTheRest();
-        restoreIsRefused();
-        restoreOfNone();
+        Edge.each(
+            EdgesOfChance::rainsByNoneToTen,
+            EdgesOfChance::rainsApart,
+            EdgesOfChance::rainsInLowestTerms,
+            EdgesOfChance::rainsAreRefused,
+            EdgesOfChance::shareOfAllLines,
+            EdgesOfChance::shareInLowestTerms,
+            EdgesOfChance::shareTellsTwo,
+            EdgesOfChance::shareOfNone,
+            EdgesOfChance::shareIsRefused,
+            EdgesOfChance::centuryOfUpToSixty,
+            EdgesOfChance::centuryGoesOnByX,
+            EdgesOfChance::centuryByClerks,
+            EdgesOfChance::centuryWithoutClerks,
+            EdgesOfChance::centuryByLines,
+            EdgesOfChance::centuryByBlocks,
+            EdgesOfChance::centuryIfHeCan,
+            EdgesOfChance::centuryRainsThen,
+            EdgesOfChance::centuryByDays,
+            EdgesOfChance::centuryTellsItsDust,
+            EdgesOfChance::drawnBySeeds,
+            EdgesOfChance::drawnIsRefused,
+            EdgesOfChance::drawnWithoutACastle,
+            EdgesOfChance::imageIsKept,
+            EdgesOfChance::imageIsRefused,
+            EdgesOfChance::imageWithoutACastle,
+            EdgesOfChance::restoreIsAsItWasKept,
+            EdgesOfChance::restoreLeavesNoActs,
+            EdgesOfChance::restoreLeavesTheRest,
+            EdgesOfChance::restoreIsRefused,
+            EdgesOfChance::restoreOfNone);
     }
 
     private static void fraction(String what, ChalkCastle x, int block, int p, long above, long below) {
@@ -125,6 +127,17 @@ final class EdgesOfChance {
         Due.is("0 of 10", x.share(2, 1), 1);
     }
 
+    private static void shareTellsTwo() {
+        Edge.says(28, "SHARE: above (what = 0), below (1);");
+        ChalkCastle x = Due.of("k1,0;b30;y1;y2;");
+        x.write(0, 1, 0);
+        x.write(1, 3, 0);
+        Due.is("above", x.share(1, 0), 3);
+        Due.is("below", x.share(1, 1), 4);
+        Due.is("above", x.share(0, 0), 1);
+        Due.is("below", x.share(0, 1), 4);
+    }
+
     private static void shareOfNone() {
         Edge.says(28, "nobody wrote any: 0 by 1.");
         ChalkCastle x = Due.of("k1,0;b30;y1;");
@@ -137,7 +150,6 @@ final class EdgesOfChance {
     }
 
     private static void shareIsRefused() {
-        Edge.says(28, "SHARE: above (what = 0), below (1);");
         Edge.says(28, "BAD.");
         ChalkCastle x = Due.of("k1,0;b30;y1;");
         for (int clerk : new int[] {-1, 1, 4, LEAST, MOST}) {

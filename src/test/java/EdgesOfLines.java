@@ -6,30 +6,31 @@ final class EdgesOfLines {
     }
 
     static void all() {
-        aBlockStandsWithAnyChalk();
-        aBlockStandsOnOneThatStands();
-        whatFellCanBeWrittenWith();
-        aClerkTakes();
-        aShortOneTakes();
-        aPoetTakes();
-        aBoyTakes();
-        aLawyerTakes();
-        linesAreWrittenWithSoMuch();
-        dustIsMore();
-        linesAreOneToThirty();
-        writeTellsChalk();
-        writeIsRefused();
-        writeWithTooLittle();
-        blockTells();
-        blockIsRefused();
-        clerkTells();
-        clerkIsRefused();
-        takesToday();
-        takesIsRefused();
-        standTells();
-        setsAreBits();
-        standIsRefused();
-        standWithoutACastle();
+        Edge.each(
+            EdgesOfLines::aBlockStandsWithAnyChalk,
+            EdgesOfLines::aBlockStandsOnOneThatStands,
+            EdgesOfLines::whatFellCanBeWrittenWith,
+            EdgesOfLines::aClerkTakes,
+            EdgesOfLines::aShortOneTakes,
+            EdgesOfLines::aPoetTakes,
+            EdgesOfLines::aBoyTakes,
+            EdgesOfLines::aLawyerTakes,
+            EdgesOfLines::linesAreWrittenWithSoMuch,
+            EdgesOfLines::dustIsMore,
+            EdgesOfLines::linesAreOneToThirty,
+            EdgesOfLines::writeTellsChalk,
+            EdgesOfLines::writeIsRefused,
+            EdgesOfLines::writeWithTooLittle,
+            EdgesOfLines::blockTells,
+            EdgesOfLines::blockIsRefused,
+            EdgesOfLines::clerkTells,
+            EdgesOfLines::clerkIsRefused,
+            EdgesOfLines::takesToday,
+            EdgesOfLines::takesIsRefused,
+            EdgesOfLines::standTells,
+            EdgesOfLines::setsAreBits,
+            EdgesOfLines::standIsRefused,
+            EdgesOfLines::standWithoutACastle);
     }
 
     private static void aBlockStandsWithAnyChalk() {

@@ -9,28 +9,29 @@ final class EdgesOfRows {
     }
 
     static void all() {
-        aNewObjectHasNoCastle();
-        numbersGoFromZeroOn();
-        rowsAreMissingAtFirst();
-        rowsHaveOneOfThreeLanes();
-        rowsHaveUpToFortyItems();
-        itemsAreZeroAtFirst();
-        rowComesInPlaceOfWhatIsThere();
-        rowIsRefused();
-        rowOfFewerThanNone();
-        setKeepsTheLowestBits();
-        setIsRefused();
-        setFindsNoRow();
-        setFindsNoPlace();
-        copyIsAsItemsWereAhead();
-        copyOfNone();
-        copyIsRefused();
-        copyFindsNoRow();
-        copyFindsTwoLanes();
-        copyFindsNoPlace();
-        dropTellsHowManyItems();
-        dropIsRefused();
-        dropFindsNoRow();
+        Edge.each(
+            EdgesOfRows::aNewObjectHasNoCastle,
+            EdgesOfRows::numbersGoFromZeroOn,
+            EdgesOfRows::rowsAreMissingAtFirst,
+            EdgesOfRows::rowsHaveOneOfThreeLanes,
+            EdgesOfRows::rowsHaveUpToFortyItems,
+            EdgesOfRows::itemsAreZeroAtFirst,
+            EdgesOfRows::rowComesInPlaceOfWhatIsThere,
+            EdgesOfRows::rowIsRefused,
+            EdgesOfRows::rowOfFewerThanNone,
+            EdgesOfRows::setKeepsTheLowestBits,
+            EdgesOfRows::setIsRefused,
+            EdgesOfRows::setFindsNoRow,
+            EdgesOfRows::setFindsNoPlace,
+            EdgesOfRows::copyIsAsItemsWereAhead,
+            EdgesOfRows::copyOfNone,
+            EdgesOfRows::copyIsRefused,
+            EdgesOfRows::copyFindsNoRow,
+            EdgesOfRows::copyFindsTwoLanes,
+            EdgesOfRows::copyFindsNoPlace,
+            EdgesOfRows::dropTellsHowManyItems,
+            EdgesOfRows::dropIsRefused,
+            EdgesOfRows::dropFindsNoRow);
     }
 
     private static void isZero(ChalkCastle x, int row, int i) {
@@ -42,7 +43,8 @@ final class EdgesOfRows {
         x.row(7, lane, 2);
         x.copy(row, i, 7, 0, 1);
         x.set(7, 1, v);
-        Due.is("item " + i + " of row " + row + " is " + v, x.who(0, 7, 0, 1) >> 4 & 1, 1);
+        // v lines take v by a clerk and by a boy; 1 line takes 1 by a short one, too.
+        Due.is("item " + i + " of row " + row + " is " + v, x.who(0, 7, 0, 1), v == 1 ? 22 : 18);
     }
 
     private static void areItems(ChalkCastle x, int row, int... items) {

@@ -8,39 +8,40 @@ final class EdgesOfTexts {
     }
 
     static void all() {
-        feedTakesBytes();
-        feedIsRefused();
-        feedIsFull();
-        theTapeHasBytes();
-        theTapeIsEmptyThen();
-        theTapeIsEmptyAtFirst();
-        lettersStandByThemselves();
-        numbersHaveTwoFigures();
-        signsAreTwo();
-        partsComeInOrder();
-        rainIsOneToNine();
-        rubsAreOfTen();
-        chalkIsOneToThirty();
-        blocksAreEightAtMost();
-        oneRestsOnALesserOne();
-        noTwoRestsAreAlike();
-        restsAreTwelveAtMost();
-        sortsAreFive();
-        handIsOneToNine();
-        clerksAreFourAtMost();
-        castleStandsInPlaceOfTheOneBefore();
-        castleBeginsAnew();
-        castleTellsBlocks();
-        allStaysAtAFault();
-        theFirstTokenWithAFault();
-        theLeastFaultOfAToken();
-        whatCannotStandThere();
-        threeFiguresAtTheFirst();
-        theEndIsAPlace();
-        numbersNotAsTold();
-        noMoreRoom();
-        theLatestFault();
-        noFaultBeforeOne();
+        Edge.each(
+            EdgesOfTexts::feedTakesBytes,
+            EdgesOfTexts::feedIsRefused,
+            EdgesOfTexts::feedIsFull,
+            EdgesOfTexts::theTapeHasBytes,
+            EdgesOfTexts::theTapeIsEmptyThen,
+            EdgesOfTexts::theTapeIsEmptyAtFirst,
+            EdgesOfTexts::lettersStandByThemselves,
+            EdgesOfTexts::numbersHaveTwoFigures,
+            EdgesOfTexts::signsAreTwo,
+            EdgesOfTexts::partsComeInOrder,
+            EdgesOfTexts::rainIsOneToNine,
+            EdgesOfTexts::rubsAreOfTen,
+            EdgesOfTexts::chalkIsOneToThirty,
+            EdgesOfTexts::blocksAreEightAtMost,
+            EdgesOfTexts::oneRestsOnALesserOne,
+            EdgesOfTexts::noTwoRestsAreAlike,
+            EdgesOfTexts::restsAreTwelveAtMost,
+            EdgesOfTexts::sortsAreFive,
+            EdgesOfTexts::handIsOneToNine,
+            EdgesOfTexts::clerksAreFourAtMost,
+            EdgesOfTexts::castleStandsInPlaceOfTheOneBefore,
+            EdgesOfTexts::castleBeginsAnew,
+            EdgesOfTexts::castleTellsBlocks,
+            EdgesOfTexts::allStaysAtAFault,
+            EdgesOfTexts::theFirstTokenWithAFault,
+            EdgesOfTexts::theLeastFaultOfAToken,
+            EdgesOfTexts::whatCannotStandThere,
+            EdgesOfTexts::threeFiguresAtTheFirst,
+            EdgesOfTexts::theEndIsAPlace,
+            EdgesOfTexts::numbersNotAsTold,
+            EdgesOfTexts::noMoreRoom,
+            EdgesOfTexts::theLatestFault,
+            EdgesOfTexts::noFaultBeforeOne);
     }
 
     private static void reads(String text, int blocks) {
@@ -251,6 +252,8 @@ final class EdgesOfTexts {
         Due.fault("k1,0;b1;b1;r1,0;r1,0;", 2, 19);
         Due.fault("k1,0;b1;b1;r1,0;r01,00;", 2, 20);
         Due.fault("k1,0;b1;b1;b1;r2,0;r2,1;r1,0;r2,0;", 2, 32);
+        Due.fault("k1,0;b1;b1;b1;r2,0;r2,1;r1,0;r2,1;", 2, 32);
+        Due.fault(EIGHT + "r7,6;r7,0;r7,6;", 2, 42);
         reads("k1,0;b1;b1;b1;r2,0;r2,1;r1,0;", 3);
     }
 
@@ -304,6 +307,9 @@ final class EdgesOfTexts {
         ChalkCastle x = new ChalkCastle();
         Due.is("none at first", x.count(1), 0);
         Due.is("the most", Due.read(x, EIGHT + TWELVE + FOUR), 8);
+        x.row(4, 0, 3);
+        x.ask(0, 0);
+        x.set(5, 0, 0);
         Due.is("the fewest", Due.read(x, "k2,0;b7;"), 1);
         Due.is("blocks", x.count(1), 1);
         Due.is("rests", x.count(2), 0);
@@ -314,6 +320,9 @@ final class EdgesOfTexts {
         Due.is("nothing rests on 0", x.block(0, 3), 0);
         x.rain();
         Due.is("the new law", x.block(0, 0), 5);
+        Due.is("no more than the castle: status()", x.status(), 1);
+        Due.is("no more than the castle: THE TRACE", x.trace(0), 11);
+        Due.is("no more than the castle: ROWS", x.drop(4), 3);
     }
 
     private static void castleBeginsAnew() {

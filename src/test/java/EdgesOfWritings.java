@@ -7,30 +7,31 @@ final class EdgesOfWritings {
     }
 
     static void all() {
-        writingsAreOneToFour();
-        writingsOneBehindAnother();
-        writingsInTheFirstWay();
-        writingsInNoWay();
-        writingsTellTheKth();
-        writingsAreRefused();
-        writingsWithoutACastle();
-        writingsFindNoRow();
-        writingsFindNoPlace();
-        writingsOfAnItemThatIsNone();
-        fromAllBlocks();
-        fromUpToThirtyLines();
-        fromTheFirst();
-        fromTellsTwo();
-        fromIsRefused();
-        fromWithoutACastle();
-        fromFindsNoRow();
-        fromFindsNoPlace();
-        whoByAllThatIsTold();
-        whoOfOneToEight();
-        whoIsRefused();
-        whoFindsNoRow();
-        whoFindsNoPlace();
-        whoOfAnItemThatIsNone();
+        Edge.each(
+            EdgesOfWritings::writingsAreOneToFour,
+            EdgesOfWritings::writingsOneBehindAnother,
+            EdgesOfWritings::writingsInTheFirstWay,
+            EdgesOfWritings::writingsInNoWay,
+            EdgesOfWritings::writingsTellTheKth,
+            EdgesOfWritings::writingsAreRefused,
+            EdgesOfWritings::writingsWithoutACastle,
+            EdgesOfWritings::writingsFindNoRow,
+            EdgesOfWritings::writingsFindNoPlace,
+            EdgesOfWritings::writingsOfAnItemThatIsNone,
+            EdgesOfWritings::fromAllBlocks,
+            EdgesOfWritings::fromUpToThirtyLines,
+            EdgesOfWritings::fromTheFirst,
+            EdgesOfWritings::fromTellsTwo,
+            EdgesOfWritings::fromIsRefused,
+            EdgesOfWritings::fromWithoutACastle,
+            EdgesOfWritings::fromFindsNoRow,
+            EdgesOfWritings::fromFindsNoPlace,
+            EdgesOfWritings::whoByAllThatIsTold,
+            EdgesOfWritings::whoOfOneToEight,
+            EdgesOfWritings::whoIsRefused,
+            EdgesOfWritings::whoFindsNoRow,
+            EdgesOfWritings::whoFindsNoPlace,
+            EdgesOfWritings::whoOfAnItemThatIsNone);
     }
 
     private static void writingsAreOneToFour() {

@@ -4,12 +4,13 @@ final class EdgesRefused {
     }
 
     static void all() {
-        theFirstThatFits();
-        findingsComeBehind();
-        findingsInTime();
-        findingsHaveNumbers();
-        whatIsRefusedChangesNothing();
-        whatIsFoundChangesNothing();
+        Edge.each(
+            EdgesRefused::theFirstThatFits,
+            EdgesRefused::findingsComeBehind,
+            EdgesRefused::findingsInTime,
+            EdgesRefused::findingsHaveNumbers,
+            EdgesRefused::whatIsRefusedChangesNothing,
+            EdgesRefused::whatIsFoundChangesNothing);
     }
 
     /** One block of 9 with DUST 3, a boy and a clerk; row 0 has 2 items. */
@@ -137,6 +138,6 @@ final class EdgesRefused {
         Due.is("promise 33 as", x.as(0, 1), Due.KIND);
         Due.is("status()", x.status(), 3);
         Due.holds("nothing else changes", before.equals(Due.seen(x)));
-        Due.is("the items of row 0 are 1 and 1 yet", x.who(0, 0, 0, 1) >> 4 & 1, 1);
+        Due.is("the items of row 0 are 1 and 1 yet", x.who(0, 0, 0, 1), 22);
     }
 }

@@ -317,6 +317,9 @@ final class EdgesForetold {
         x.write(3, 14, 0);
         Due.is("with a fallen one", x.longest(1, 1), 2);
         Due.is("of three alike", Due.of("k1,0;b7;b7;b7;c2;").longest(0, 1), 0);
+        ChalkCastle y = Due.of("k1,0;b7;b7;b7;b7;b7;b7;b7;b8;c9;c9;c9;c2;");
+        Due.is("with the last of eight, by the last of four", y.longest(3, 1), 7);
+        Due.is("how many", y.longest(3, 0), 4);
     }
 
     private static void longestIsRefused() {

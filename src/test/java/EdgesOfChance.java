@@ -112,6 +112,12 @@ final class EdgesOfChance {
         Due.is("LINES, not CHALK", x.share(1, 0), 29);
         x.undo();
         Due.is("undone", x.share(0, 1), 1);
+        ChalkCastle y = Due.of("k1,0;b30;y1;y1;y1;y1;");
+        for (int clerk = 0; clerk < 4; clerk++) {
+            y.write(clerk, clerk + 1, 0);
+        }
+        Due.is("4 of 10, by the last of four", y.share(3, 0), 2);
+        Due.is("4 of 10, by the last of four", y.share(3, 1), 5);
     }
 
     private static void shareInLowestTerms() {
@@ -226,6 +232,8 @@ final class EdgesOfChance {
         Due.is("block 0 of 3", Due.of("k1,0;b2;b2;b2;c1;").drawn(1, 3, 0), 6);
         Due.is("block 1 of 2", Due.of("k1,0;b3;b3;c1;").drawn(1, 1, 0), 1);
         Due.is("block 0 of 1", Due.of("k1,0;b3;c1;").drawn(1, 1, 0), 0);
+        // X 16807 leaves 7 by 8 and 3 by 4.
+        Due.is("block 7 of 8", Due.of("k1,0;b6;b6;b6;b6;b6;b6;b6;b6;c1;c1;c1;c2;").drawn(1, 1, 0), 127);
     }
 
     private static void centuryIfHeCan() {

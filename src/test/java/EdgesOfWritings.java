@@ -11,6 +11,7 @@ final class EdgesOfWritings {
             EdgesOfWritings::writingsAreOneToFour,
             EdgesOfWritings::writingsOneBehindAnother,
             EdgesOfWritings::writingsInTheFirstWay,
+            EdgesOfWritings::writingsWithTheMostThereIs,
             EdgesOfWritings::writingsInNoWay,
             EdgesOfWritings::writingsTellTheKth,
             EdgesOfWritings::writingsAreRefused,
@@ -84,6 +85,16 @@ final class EdgesOfWritings {
         Due.fill(y, 0, 0, 1, 0, 2);
         Due.is("1 with 0, where 2 have then no room", y.writings(0, 0, 2, 0), 0);
         Due.is("so 2 with 1", y.writings(0, 0, 2, 1), 1);
+    }
+
+    private static void writingsWithTheMostThereIs() {
+        Edge.says(22, "the k-th's BLOCK in the first such way (by numbers);");
+        ChalkCastle x = Due.of("k1,0;b3;b3;b3;b3;b5;b5;b5;b9;c9;c9;c9;y1;");
+        Due.fill(x, 0, 3, 4, 3, 4, 3, 4, 3, 8);
+        Due.is("all eight stand", x.writings(0, 0, 4, -1), 8);
+        for (int k = 0; k < 4; k++) {
+            Due.is("with " + (4 + k), x.writings(0, 0, 4, k), 4 + k);
+        }
     }
 
     private static void writingsInNoWay() {

@@ -27,13 +27,12 @@ public final class ChalkCastle {
     private static final int[] MARK_BODIES = {20, 21, 24, 22, 23, 23};
 
     private final Row[] rows = new Row[ROWS];
-    private final int[] tape = new int[MOST_BYTES];
-    private int bytes = 0;
+    private final Reader reader = new Reader();
     private int latestFault = 0;
     private int finding = 0;
 
-    /** A plan without blocks is no castle. */
-    private Plan plan = new Plan();
+    /** A plan without blocks is no castle, and no image. */
+    private final Plan plan = new Plan();
     private final State now = new State();
 
     /** A ring: the state ahead of each act that can be undone. */
@@ -48,11 +47,16 @@ public final class ChalkCastle {
     private final Search search = new Search();
     private final Asking asking = new Asking();
 
+    /** All that any call needs is made here, so that no call makes an object. */
     public ChalkCastle() {
+        for (int i = 0; i < ROWS; i++) {
+            rows[i] = new Row();
+        }
         for (int i = 0; i < MOST_ACTS; i++) {
             ahead[i] = new State();
         }
         for (int i = 0; i < IMAGES; i++) {
+            imagePlans[i] = new Plan();
             imageStates[i] = new State();
         }
     }
@@ -66,7 +70,7 @@ public final class ChalkCastle {
         if (n < 0) {
             return found(SIZE);
         }
-        rows[row] = new Row(lane, n);
+        rows[row].begin(lane, n);
         return foundNone(n);
     }
 
@@ -75,11 +79,9 @@ public final class ChalkCastle {
             return BAD;
         }
         Row at = rows[row];
-        if (at == null) {
-            return found(NULL);
-        }
-        if (!at.hasPlaces(i, 1)) {
-            return found(PLACE);
+        int lack = at.lackOf(i, 1);
+        if (lack != 0) {
+            return found(lack);
         }
         at.items[i] = at.lowestBits(v);
         return foundNone(at.items[i]);
@@ -91,7 +93,7 @@ public final class ChalkCastle {
         }
         Row from = rows[a];
         Row to = rows[b];
-        if (from == null || to == null) {
+        if (from.isMissing() || to.isMissing()) {
             return found(NULL);
         }
         if (from.lane != to.lane) {
@@ -109,11 +111,12 @@ public final class ChalkCastle {
             return BAD;
         }
         Row at = rows[row];
-        if (at == null) {
+        if (at.isMissing()) {
             return found(NULL);
         }
-        rows[row] = null;
-        return foundNone(at.items.length);
+        int had = at.length;
+        at.drop();
+        return foundNone(had);
     }
 
     // ---- what is told
@@ -122,23 +125,17 @@ public final class ChalkCastle {
         if (letter < 0 || letter > 255) {
             return BAD;
         }
-        if (bytes >= MOST_BYTES) {
-            return FULL;
-        }
-        tape[bytes] = letter;
-        bytes++;
-        return bytes;
+        return reader.hasTaken(letter) ? reader.bytes : FULL;
     }
 
     public int castle() {
-        Reader reader = new Reader(tape, bytes);
         reader.readCastle();
-        bytes = 0;
+        reader.bytes = 0;
         if (reader.fault != 0) {
             latestFault = reader.fault;
             return BEFORE_PLACES - reader.place;
         }
-        plan = reader.plan;
+        plan.become(reader.plan);
         now.begin(plan);
         acts = 0;
         return plan.blocks;
@@ -336,20 +333,18 @@ public final class ChalkCastle {
             return BAD;
         }
         Row told = rows[row];
-        if (told == null) {
-            return found(NULL);
-        }
-        if (!told.hasPlaces(i, 2 * n)) {
-            return found(PLACE);
+        int lack = told.lackOf(i, 2 * n);
+        if (lack != 0) {
+            return found(lack);
         }
         if (!tellsWritings(told.items, i, n)) {
             return BAD;
         }
-        search.begin(plan, now, n);
+        search.begin(now, n);
         for (int t = 0; t < n; t++) {
             search.needs[t] = plan.chalkFor(told.items[i + 2 * t], told.items[i + 2 * t + 1], now.day);
         }
-        tryBlocks(search, 0);
+        tryBlocks(plan, search, 0);
         if (search.most < 0 || k >= n) {
             return foundNone(NONE);
         }
@@ -364,11 +359,9 @@ public final class ChalkCastle {
             return BAD;
         }
         Row told = rows[row];
-        if (told == null) {
-            return found(NULL);
-        }
-        if (!told.hasPlaces(i, plan.blocks)) {
-            return found(PLACE);
+        int lack = told.lackOf(i, plan.blocks);
+        if (lack != 0) {
+            return found(lack);
         }
         int block = onlyLessened(told.items, i);
         int chalk = block < 0 ? 0 : now.chalk[block] - told.items[i + block];
@@ -390,11 +383,9 @@ public final class ChalkCastle {
             return BAD;
         }
         Row told = rows[row];
-        if (told == null) {
-            return found(NULL);
-        }
-        if (!told.hasPlaces(i, 2 * n)) {
-            return found(PLACE);
+        int lack = told.lackOf(i, 2 * n);
+        if (lack != 0) {
+            return found(lack);
         }
         for (int t = 0; t < n; t++) {
             if (!isLines(told.items[i + 2 * t])) {
@@ -411,7 +402,7 @@ public final class ChalkCastle {
     }
 
     public int layer(int block) {
-        return plan.hasBlock(block) ? plan.layerOf(block) : BAD;
+        return plan.hasBlock(block) ? plan.layers[block] : BAD;
     }
 
     public int longest(int clerk, int what) {
@@ -481,7 +472,7 @@ public final class ChalkCastle {
         if (!hasCastle()) {
             return STATE;
         }
-        imagePlans[k] = plan;
+        imagePlans[k].become(plan);
         imageStates[k].become(now);
         return 1;
     }
@@ -490,11 +481,10 @@ public final class ChalkCastle {
         if (!isBelow(k, IMAGES)) {
             return BAD;
         }
-        Plan kept = imagePlans[k];
-        if (kept == null) {
+        if (imagePlans[k].blocks < 1) {
             return STATE;
         }
-        plan = kept;
+        plan.become(imagePlans[k]);
         now.become(imageStates[k]);
         acts = 0;
         return 1;
@@ -537,7 +527,7 @@ public final class ChalkCastle {
             case 4: return now.day;
             case 5: return now.allLines();
             case 6: return acts;
-            case 7: return bytes;
+            case 7: return reader.bytes;
             default: return BAD;
         }
     }
@@ -573,7 +563,7 @@ public final class ChalkCastle {
     private int rowsThere() {
         int there = 0;
         for (int i = 0; i < ROWS; i++) {
-            if (rows[i] != null) {
+            if (!rows[i].isMissing()) {
                 there++;
             }
         }
@@ -606,20 +596,22 @@ public final class ChalkCastle {
     }
 
     /** Writing never makes a block stand, so a beginning that is no better than the best is left. */
-    private static void tryBlocks(Search search, int depth) {
+    private static void tryBlocks(Plan plan, Search search, int depth) {
+        int standing = Integer.bitCount(plan.standing(search.state.withChalk()));
+        if (standing <= search.most) {
+            return;
+        }
         if (depth >= search.n) {
-            search.keepWay();
+            search.keepWay(standing);
             return;
         }
         int need = search.needs[depth];
         int[] chalk = search.state.chalk;
-        for (int b = 0; b < search.plan.blocks; b++) {
+        for (int b = 0; b < plan.blocks; b++) {
             if (chalk[b] >= need) {
                 chalk[b] -= need;
                 search.way[depth] = b;
-                if (search.standing() > search.most) {
-                    tryBlocks(search, depth + 1);
-                }
+                tryBlocks(plan, search, depth + 1);
                 chalk[b] += need;
             }
         }
@@ -736,17 +728,41 @@ public final class ChalkCastle {
         return (what == 0 ? above : below) / divisor;
     }
 
+    /** Made once and used again: while it is missing it has fewer items than none. */
     private static final class Row {
-        final int lane;
-        final int[] items;
+        final int[] items = new int[MOST_ITEMS];
+        int lane = 0;
+        int length = -1;
 
-        Row(int lane, int n) {
-            this.lane = lane;
-            this.items = new int[Math.max(0, n)];
+        Row() {
+        }
+
+        void begin(int itsLane, int n) {
+            lane = itsLane;
+            length = Math.min(n, MOST_ITEMS);
+            for (int i = 0; i < MOST_ITEMS; i++) {
+                items[i] = 0;
+            }
+        }
+
+        void drop() {
+            length = -1;
+        }
+
+        boolean isMissing() {
+            return length < 0;
         }
 
         boolean hasPlaces(int i, int n) {
-            return i >= 0 && n >= 0 && i <= items.length - n;
+            return i >= 0 && n >= 0 && i <= length - n;
+        }
+
+        /** The finding by which n items from i on are not to be had; 0: they are. */
+        int lackOf(int i, int n) {
+            if (isMissing()) {
+                return NULL;
+            }
+            return hasPlaces(i, n) ? 0 : PLACE;
         }
 
         int lowestBits(int v) {
@@ -758,7 +774,7 @@ public final class ChalkCastle {
         }
     }
 
-    /** What a text tells: it never changes once it is read, so images share it. */
+    /** What a text tells, and no act changes. */
     private static final class Plan {
         int rain = 0;
         int rubs = 0;
@@ -767,10 +783,35 @@ public final class ChalkCastle {
         int clerks = 0;
         final int[] chalk = new int[MOST_BLOCKS];
         final int[] below = new int[MOST_BLOCKS];
+        final int[] layers = new int[MOST_BLOCKS];
         final int[] kinds = new int[MOST_CLERKS];
         final int[] hands = new int[MOST_CLERKS];
 
         Plan() {
+        }
+
+        void clear() {
+            blocks = 0;
+            rests = 0;
+            clerks = 0;
+            for (int b = 0; b < MOST_BLOCKS; b++) {
+                chalk[b] = 0;
+                below[b] = 0;
+                layers[b] = 0;
+            }
+        }
+
+        void become(Plan other) {
+            rain = other.rain;
+            rubs = other.rubs;
+            blocks = other.blocks;
+            rests = other.rests;
+            clerks = other.clerks;
+            System.arraycopy(other.chalk, 0, chalk, 0, MOST_BLOCKS);
+            System.arraycopy(other.below, 0, below, 0, MOST_BLOCKS);
+            System.arraycopy(other.layers, 0, layers, 0, MOST_BLOCKS);
+            System.arraycopy(other.kinds, 0, kinds, 0, MOST_CLERKS);
+            System.arraycopy(other.hands, 0, hands, 0, MOST_CLERKS);
         }
 
         boolean hasBlock(int block) {
@@ -807,16 +848,15 @@ public final class ChalkCastle {
             return set;
         }
 
-        int layerOf(int block) {
-            int[] layers = new int[MOST_BLOCKS];
-            for (int b = 0; b <= block; b++) {
+        /** Rests may come in any order, so the layers are known only when all are read. */
+        void settleLayers() {
+            for (int b = 0; b < blocks; b++) {
                 for (int under = 0; under < b; under++) {
                     if ((below[b] >> under & 1) == 1) {
                         layers[b] = Math.max(layers[b], layers[under] + 1);
                     }
                 }
             }
-            return layers[block];
         }
 
         int chalkFor(int clerk, int n, int day) {
@@ -891,20 +931,31 @@ public final class ChalkCastle {
         }
     }
 
-    /** Reads a tape token by token; at a fault it stays at the token that has it. */
+    /** Has the tape and reads it token by token; at a fault it stays at the token that has it. */
     private static final class Reader {
         final Plan plan = new Plan();
-        final int[] tape;
-        final int bytes;
+        final int[] tape = new int[MOST_BYTES];
+        int bytes = 0;
         int place = 0;
         int fault = 0;
 
-        Reader(int[] tape, int bytes) {
-            this.tape = tape;
-            this.bytes = Math.min(bytes, tape.length);
+        Reader() {
+        }
+
+        /** Whether there is room for the letter, which is on the tape then. */
+        boolean hasTaken(int letter) {
+            if (bytes >= MOST_BYTES) {
+                return false;
+            }
+            tape[bytes] = letter;
+            bytes++;
+            return true;
         }
 
         void readCastle() {
+            plan.clear();
+            place = 0;
+            fault = 0;
             readLaw();
             readBlock();
             // Each reads its last round only to find that there is no room.
@@ -920,6 +971,7 @@ public final class ChalkCastle {
             if (fault == 0 && place < bytes) {
                 fault = 1;
             }
+            plan.settleLayers();
         }
 
         void readLaw() {
@@ -1033,26 +1085,20 @@ public final class ChalkCastle {
         final int[] needs = new int[MOST_WRITINGS];
         final int[] way = new int[MOST_WRITINGS];
         final int[] firstWay = new int[MOST_WRITINGS];
-        Plan plan = new Plan();
         int n = 0;
         int most = -1;
 
         Search() {
         }
 
-        void begin(Plan told, State start, int writings) {
-            plan = told;
+        void begin(State start, int writings) {
             n = Math.min(writings, MOST_WRITINGS);
             most = -1;
             state.become(start);
         }
 
-        int standing() {
-            return Integer.bitCount(plan.standing(state.withChalk()));
-        }
-
-        void keepWay() {
-            most = standing();
+        void keepWay(int standing) {
+            most = standing;
             System.arraycopy(way, 0, firstWay, 0, n);
         }
     }

@@ -280,6 +280,13 @@ final class EdgesForetold {
         Due.is("on one", y.layer(2), 1);
         Due.is("the greatest is the last", y.layer(3), 2);
         Due.is("the greatest is the first", Due.of("k1,0;b1;b1;b1;b1;r1,0;r3,1;r3,2;").layer(3), 2);
+        Due.is("in any order", Due.of("k1,0;b1;b1;b1;b1;r3,2;r2,1;r1,0;").layer(3), 3);
+        x.image(0);
+        Due.read(x, "k1,0;b1;b1;b1;r2,1;");
+        Due.is("of the new castle, on one", x.layer(2), 1);
+        Due.is("of the new castle, on none", x.layer(1), 0);
+        x.restore(0);
+        Due.is("of the castle that is back", x.layer(7), 7);
     }
 
     private static void layerIsRefused() {
